@@ -554,7 +554,7 @@ public final class ShopFloor {
         return '.';
     }
 
-    /** The next of all orders of row[from .. to - 1] by numbers; false: it was the last, the first stands again. */
+    /** The next order of row[from .. to - 1] by numbers; false: that was the last, the first stands again. */
     private static boolean nextOrder(int[] row, int from, int to) {
         int fall = to - 2;
         while (fall >= from && row[fall] > row[fall + 1]) {
@@ -1164,7 +1164,7 @@ public final class ShopFloor {
             return over;
         }
 
-        /** From one time at which the choice may change to the next: a task is finished, or a HEAD reached. */
+        /** Goes on by whole stretches: the choice changes just where a task ends or a HEAD is reached. */
         int preempted(Jobs jobs, int m) {
             for (int t = 0; t < jobs.tasks; t++) {
                 left[t] = jobs.machine[t] == m ? jobs.lasts[t] : 0;
@@ -1262,7 +1262,7 @@ public final class ShopFloor {
             }
         }
 
-        /** As a counter goes on: a machine whose orders are through begins again, and the next one goes on. */
+        /** Like a counter's figures: a machine whose orders are through begins again, the next one goes on. */
         private void nextOfAll(Jobs jobs) {
             for (int m = 0; m < MACHINES; m++) {
                 if (nextOrder(row, jobs.slots[m], jobs.slots[m + 1])) {

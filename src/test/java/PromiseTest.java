@@ -234,6 +234,10 @@ public final class PromiseTest {
         due("6: machine -1", x.turn(-1, 0), BAD);
         due("6: no change by bad", x.count(3), 4);
         due("6: no shop", new ShopFloor().turn(0, 0), BAD);
+        ShopFloor third = Check.made(THREE);
+        due("6: the second and the third", third.turn(1, 1), 13);
+        dueOrder(third, 1, 1, 6, 5);
+        dueOrder(third, 0, 0, 3);
         ShopFloor own = Check.made("0 1,0 2");
         due("6: two of one job", own.turn(0, 0), RING);
     }
@@ -371,6 +375,7 @@ public final class PromiseTest {
         due("13: no least", x.best(0), NOT);
         due("13: k -1", x.does(-1), BAD);
         due("13: k high", x.does(HIGH), NOT);
+        due("13: behind the last", x.does(x.move(-1)), NOT);
         due("13: no change by these", x.count(3), 1);
         due("13: no shop", new ShopFloor().does(0), STATE);
         due("13: bad ahead of no shop", new ShopFloor().does(-1), BAD);
@@ -438,6 +443,23 @@ public final class PromiseTest {
         dueKept(fro, 200, 2);
         due("15: again", fro.step(3), 3);
         dueKept(fro, 2, 200);
+        // Two moves, both kept: not the one that brings less, nor the first, but the one kept longest.
+        ShopFloor two = Check.made("2 3,0 3;2 1,0 3");
+        due("15: three steps", two.step(3), 3);
+        dueKept(two, 301, 200, 2);
+        dueMoves(two, 2, 301);
+        due("15: brings no less than least", two.brings(0, 1), 7);
+        due("15: least", two.best(0), 7);
+        due("15: one more", two.step(1), 1);
+        due("15: the one kept longest is done", two.span(), 9);
+        dueKept(two, 301, 200, 2, 103);
+        // Of like ones the first.
+        ShopFloor like = Check.made("1 1;1 4,0 4;0 3;0 2,1 4");
+        dueMoves(like, 1, 203, 304);
+        int[] brought = {17, 15, 15};
+        for (int k = 0; k < 3; k++) due("15: brings " + k, like.brings(k, 1), brought[k]);
+        due("15: of like ones", like.step(1), 1);
+        dueKept(like, 302);
         // A kept move is done, if it brings less than LEAST.
         ShopFloor less = Check.made("1 6,2 6,0 5;2 5;2 6,0 2");
         due("15: two steps", less.step(2), 2);
