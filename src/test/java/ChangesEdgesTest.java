@@ -44,31 +44,48 @@ public final class ChangesEdgesTest {
 
     // ---- Promise 24: undo
 
+    /** The orders ahead of each of so many turns, and behind the last one; all of MACHINE 0 is turned about. */
+    private static List<List<Integer>> turned(ShopFloor x, int many) {
+        List<List<Integer>> rows = new ArrayList<>();
+        rows.add(Probe.row(k -> x.order(0, k)));
+        for (int i = 0; i < many; i++) {
+            x.turn(0, i % 2);
+            Check.due("changes", x.count(3), Math.min(16, i + 1));
+            rows.add(Probe.row(k -> x.order(0, k)));
+        }
+        return rows;
+    }
+
     /** "16 at most are kept", "the latest first", "how many may still be. STATE: none" */
     static void p24SixteenAtMost() {
         for (int many = 0; many <= 20; many++) {
             ShopFloor x = Check.made(THREE_ON_ONE);
-            List<List<Integer>> then = new ArrayList<>();
-            for (int i = 0; i < many; i++) {
-                then.add(orders(x));
-                x.turn(0, i % 2);
-                Check.due("changes", x.count(3), Math.min(16, i + 1));
-            }
-            List<Integer> last = orders(x);
+            List<List<Integer>> rows = turned(x, many);
             int may = Math.min(16, many);
             for (int i = 1; i <= may; i++) {
                 Check.due("undo " + i + " of " + many, x.undo(), may - i);
-                Check.same("orders ahead of it", orders(x), then.get(many - i));
+                Check.same("orders ahead of it", Probe.row(k -> x.order(0, k)), rows.get(many - i));
                 Check.due("may be done again", x.count(4), i);
             }
-            List<Integer> first = orders(x);
             Check.due("none of " + many, x.undo(), STATE);
-            Check.same("changes nothing", orders(x), first);
+            Check.same("changes nothing", Probe.row(k -> x.order(0, k)), rows.get(many - may));
+        }
+    }
+
+    /** "and DONE AGAIN": as many as were UNDONE, the latest UNDONE first */
+    static void p25AsManyAsWereUndone() {
+        for (int many = 0; many <= 20; many++) {
+            ShopFloor x = Check.made(THREE_ON_ONE);
+            List<List<Integer>> rows = turned(x, many);
+            int may = Math.min(16, many);
+            for (int i = 0; i < may; i++) x.undo();
             for (int i = 1; i <= may; i++) {
                 Check.due("redo " + i + " of " + many, x.redo(), may - i);
-                Check.same("orders behind it", orders(x), i < may ? then.get(many - may + i) : last);
+                Check.same("orders behind it", Probe.row(k -> x.order(0, k)), rows.get(many - may + i));
+                Check.due("may be undone", x.count(3), i);
             }
             Check.due("none of " + many, x.redo(), STATE);
+            Check.same("changes nothing", Probe.row(k -> x.order(0, k)), rows.get(many));
         }
     }
 
@@ -265,7 +282,7 @@ public final class ChangesEdgesTest {
         // The images are alike ahead of it, so behind it nothing may be other.
         Scene imaged = Scene.WORN_AND_TAPE.then(ShopFloor::image);
         imaged.then(ShopFloor::image).alike("image() again", imaged);
-        for (Probe p : new Probe[] {Probe.LOOK, Probe.UNDO, Probe.REDO, Probe.BEST, Probe.TAPE, Probe.T, Probe.STEP}) {
+        for (Probe p : new Probe[] {Probe.LOOK, Probe.TIMES, Probe.UNDO, Probe.REDO, Probe.BEST, Probe.TAPE, Probe.T, Probe.STEP}) {
             Check.same("image(), then " + p, p.ask(imaged.made()), p.ask(Scene.WORN_AND_TAPE.made()));
         }
     }
@@ -323,6 +340,24 @@ public final class ChangesEdgesTest {
         Check.due("a step", x.step(1), 1);
         Check.due("goes on", x.count(5), 6);
         Check.due("T stays", x.tabu(4), 3);
+    }
+
+    /** what is laid back answers as on a new object: nothing of the SHOP ahead of it is left */
+    static void p27NothingOfTheShopAheadIsLeft() {
+        String[] texts = {"0 1", "4 9,4 9", Scene.THREE, Scene.CROSS, Scene.HOMES, Scene.SEVEN_ON_ONE,
+            "0 5,1 6,2 7;3 1;4 2", "1 2,0 3;0 4,1 5;2 6,3 7,0 8"};
+        for (String text : texts) {
+            Scene kept = new Scene("an image").shop(text).then(ShopFloor::image);
+            for (String ahead : texts) {
+                Scene other = kept.shop(ahead).then(x -> {
+                    for (int m = 0; m < 5; m++) x.machine(m, 0);
+                    x.bound();
+                    x.all(0);
+                    x.would(2);
+                });
+                other.then(ShopFloor::back).alike("\"" + text + "\" laid back upon \"" + ahead + "\"", kept);
+            }
+        }
     }
 
     /** "AN IMAGE keeps the SHOP and ORDERS": an order with a RING, too */

@@ -68,8 +68,9 @@ final class Check {
     }
 
     static void feed(ShopFloor x, String text) {
+        int ahead = x.count(2);
         for (int i = 0; i < text.length(); i++) {
-            due("feed of \"" + text + "\" at " + i, x.feed(text.charAt(i)), x.count(2));
+            due("feed of \"" + text + "\" at " + i, x.feed(text.charAt(i)), ahead + i + 1);
         }
     }
 

@@ -36,9 +36,9 @@ public final class FuzzTest {
         }
         while (calls < 500 && !Check.anyWrong()) {
             int what = dice.nextInt(100);
-            if (what < 1 && calls < 380) {
+            if (what < 1 && calls < 350) {
                 text(dice.nextInt(5));
-            } else if (what < 5) {
+            } else if (what < 5 && calls < 350) {
                 lookAtAll();
             } else {
                 anyCall();
@@ -101,7 +101,10 @@ public final class FuzzTest {
         int moves = call("move", -1, 0);
         for (int k = 0; k < moves; k++) {
             call("move", k, 0);
-            for (int w = 0; w < 3; w++) call("brings", k, w);
+            int atLeast = call("brings", k, 0);
+            int brings = call("brings", k, 1);
+            Check.due("\"No MOVE makes a RING\", and AT LEAST is no more than it brings", 0 < atLeast && atLeast <= brings ? 1 : 0, 1);
+            call("brings", k, 2);
         }
         int blocks = call("block", -1, 0);
         for (int b = 0; b < blocks; b++) call("block", b, 0);
@@ -129,7 +132,7 @@ public final class FuzzTest {
         if (dice.nextInt(25) == 0) {
             return ODD[dice.nextInt(ODD.length)];
         }
-        int tasks = Math.max(1, x.count(1));
+        int tasks = Math.max(1, m.count(1));
         return switch (name) {
             case "feed" -> dice.nextInt(130);
             case "task", "of" -> dice.nextInt(first ? tasks + 1 : 5);
@@ -142,7 +145,7 @@ public final class FuzzTest {
             case "step" -> dice.nextInt(6) == 0 ? 1 + dice.nextInt(30) : 1 + dice.nextInt(3);
             case "dispatch", "would" -> dice.nextInt(4);
             case "machine" -> dice.nextInt(first ? 5 : 2);
-            case "chart" -> dice.nextInt(2 + Math.max(0, Math.min(x.chart(-1), 400)));
+            case "chart" -> dice.nextInt(2 + Math.max(0, Math.min(m.chart(-1), 400)));
             case "count" -> dice.nextInt(7);
             default -> dice.nextInt(2);
         };

@@ -420,6 +420,25 @@ public final class MovesEdgesTest {
         x.step(1);
         Check.kept(x, 301, 200, 2, 103);
         Check.order(x, 0, 1, 3);
+        // Here it is the first on the way, though the other one brings less.
+        ShopFloor first = Check.made("0 3,1 1;0 5,1 4");
+        first.step(3);
+        Check.kept(first, 200, 301, 103);
+        Check.moves(first, 200, 103);
+        dueBrings(first, 0, 12, 12, 1);
+        dueBrings(first, 1, 10, 10, 1);
+        Check.due("least", first.best(0), 10);
+        first.step(1);
+        Check.due("the first", first.span(), 12);
+        // And here the one between.
+        ShopFloor between = Check.made("0 5,1 3,2 5;0 2,1 3,2 5");
+        between.step(5);
+        Check.kept(between, 401, 300, 3, 205);
+        Check.moves(between, 3, 401, 205);
+        Check.due("least", between.best(0), 15);
+        between.step(1);
+        Check.due("the one between", between.span(), 18);
+        Check.kept(between, 300, 3, 205, 104);
     }
 
     /** "LEAST behind a STEP is looked at as soon as its MOVE is done": within one call, too */
@@ -454,18 +473,18 @@ public final class MovesEdgesTest {
             x.tabu(t);
             List<Integer> want = new ArrayList<>();
             boolean tookOff = false;
-            for (int i = 0; i < 14; i++) {
-                int[] places = places(x);
-                if (x.step(1) == 0) break;
-                int undoing = moveBack(x, places);
-                want.remove((Integer) undoing);
+            int[] places = places(x);
+            for (int i = 0; i < 12 && x.step(1) == 1; i++) {
+                int[] now = places(x);
+                Integer undoing = moveBack(places, now);
+                places = now;
+                want.remove(undoing);
                 want.add(undoing);
                 if (want.size() > t) {
                     want.remove(0);
                     tookOff = true;
                 }
-                Check.same("T " + t + ", step " + i, Probe.row(x::kept), want);
-                Check.due("how many", x.kept(-1), want.size());
+                Check.kept(x, want.toArray(new Integer[0]));
                 Check.due("behind them", x.kept(want.size()), NOT);
             }
             Check.due("T " + t + " kept", want.size(), t);
@@ -479,14 +498,13 @@ public final class MovesEdgesTest {
         return places;
     }
 
-    /** The MOVE that would undo what one step did, found by the places ahead of it. */
-    private static int moveBack(ShopFloor x, int[] places) {
+    /** The MOVE that would undo what one step did, by the places ahead of it and behind. */
+    private static int moveBack(int[] places, int[] now) {
         int ahead = -1;
         int behind = -1;
         for (int t = 0; t < places.length; t++) {
-            int place = x.task(t, 4);
-            ahead = place < places[t] ? t : ahead;
-            behind = place > places[t] ? t : behind;
+            ahead = now[t] < places[t] ? t : ahead;
+            behind = now[t] > places[t] ? t : behind;
         }
         return 100 * ahead + behind;
     }

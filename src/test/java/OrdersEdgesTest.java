@@ -194,6 +194,20 @@ public final class OrdersEdgesTest {
         shop("0 9,3 3;1 1,0 2,2 4").due(14, "machine", 0, 1);
     }
 
+    /** "at each tick": also when it isn't the first one there that makes way */
+    static void p20PreemptedLater() {
+        // 2 .. 4 the one with HEAD 2, then 4 .. 6 that with HEAD 4 and TAIL 8, then 7 ticks and 1 behind.
+        shop("1 2,0 9,3 1;2 4,0 2,4 8").due(14, "machine", 0, 1);
+        shop("1 2,0 9,3 1;2 4,0 2,4 8").due(16, "machine", 0, 0);
+    }
+
+    /** PREEMPTED has no limit of TASKS: with all 24 on one MACHINE it never stands still, nor ends later */
+    static void p20PreemptedTwentyFour() {
+        String text = "0 7,0 3,0 11,0 5,0 2,0 13;0 1,0 17,0 4,0 9,0 6,0 8;0 19,0 2,0 3,0 5,0 7,0 1;0 10,0 10,0 1,0 23,0 3,0 15";
+        shop(text).due(41 + 45 + 37 + 62, "machine", 0, 1);
+        shop(text).due(LONG, "machine", 0, 0);
+    }
+
     /** "when the last TAIL is over" */
     static void p20PreemptedTheLastTail() {
         shop("0 1,1 20;0 3").due(21, "machine", 0, 1);
@@ -257,6 +271,16 @@ public final class OrdersEdgesTest {
         shop("0 1,0 1;0 1,0 1").due(6, "all", 0);
         shop("0 1,1 1,2 1,3 1,4 1;0 1,1 1,2 1,3 1,4 1").due(32, "all", 0);
         shop("0 1,1 1,2 1,3 1,4 1;4 1,3 1,2 1,1 1,0 1").due(6, "all", 0);
+    }
+
+    /** "the least SPAN of these": of one alone, of the first, of the last, of one between */
+    static void p22TheLeastSpan() {
+        shop("0 7").due(7, "all", 1);
+        shop("0 3,0 4").due(7, "all", 1);
+        shop("0 1,1 9;0 5").due(10, "all", 1);
+        shop("0 5;0 1,1 9").due(10, "all", 1);
+        shop("0 5,1 1;0 1,1 9;0 2,1 2").due(13, "all", 1);
+        shop(Scene.THREE).due(11, "all", 1);
     }
 
     /** "a MACHINE with n has n! ways; all ways together 720 at most, else LONG" */

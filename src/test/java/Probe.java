@@ -4,13 +4,14 @@ import java.util.function.IntUnaryOperator;
 
 /** Rows of calls whose answers, together, tell all of how an object stands. */
 enum Probe {
-    LOOK, UNDO, REDO, BEST, BACK, TAPE, T, STEP;
+    LOOK, TIMES, UNDO, REDO, BEST, BACK, TAPE, T, STEP;
 
     /** The answers of this row of calls; each is meant for an object of its own. */
     List<Integer> ask(ShopFloor x) {
         List<Integer> a = new ArrayList<>();
         switch (this) {
             case LOOK -> look(x, a);
+            case TIMES -> times(x, a);
             case UNDO -> {
                 while (a.add(x.undo()) && a.get(a.size() - 1) >= 0) orders(x, a);
             }
@@ -57,11 +58,6 @@ enum Probe {
         counts(x, a);
         jobs(x, a);
         orders(x, a);
-        a.add(x.span());
-        int tasks = x.count(1);
-        for (int t = 0; t < tasks; t++) {
-            for (int w = 0; w < 4; w++) a.add(x.of(t, w));
-        }
         a.addAll(row(x::way));
         a.addAll(row(x::block));
         List<Integer> moves = row(x::move);
@@ -71,6 +67,14 @@ enum Probe {
         }
         a.addAll(row(x::kept));
         a.add(x.best(0));
+    }
+
+    private static void times(ShopFloor x, List<Integer> a) {
+        a.add(x.span());
+        int tasks = x.count(1);
+        for (int t = 0; t < tasks; t++) {
+            for (int w = 0; w < 4; w++) a.add(x.of(t, w));
+        }
         for (int rule = 0; rule < 4; rule++) a.add(x.would(rule));
         for (int m = 0; m < 5; m++) {
             a.add(x.machine(m, 0));

@@ -338,6 +338,27 @@ public final class ShopEdgesTest {
         Check.due("the image stays", x.back(), 8);
     }
 
+    /** a new SHOP answers as on a new object: nothing of the one ahead of it is left */
+    static void p03NothingOfTheShopAheadIsLeft() {
+        String[] texts = {"0 1", "4 9,4 9", Scene.THREE, Scene.CROSS, Scene.HOMES, Scene.SEVEN_ON_ONE,
+            "0 5,1 6,2 7;3 1;4 2", "1 2,0 3;0 4,1 5;2 6,3 7,0 8", jobs(6, 6, 6, 6)};
+        for (String ahead : texts) {
+            for (String text : texts) {
+                Scene behind = new Scene("a shop").shop(ahead).then(ShopEdgesTest::askWhatMayBeKept).shop(text);
+                behind.alike("\"" + text + "\" behind \"" + ahead + "\"", new Scene("a shop").shop(text));
+            }
+        }
+    }
+
+    private static void askWhatMayBeKept(ShopFloor x) {
+        for (int m = 0; m < 5; m++) x.machine(m, 0);
+        x.bound();
+        x.all(0);
+        x.would(2);
+        x.dispatch(3);
+        x.undo();
+    }
+
     // ---- Promise 4: task
 
     /** "Of a TASK": t from 0 on, as many as there are */
